@@ -111,16 +111,10 @@ public final class PromiseKitchen {
         if (!isWork(minutes, 1, kind)) {
             return BAD;
         }
-        if (lacksRoom(1)) {
-            return FULL;
-        }
         return openWork(new Work(madeCount + 1, FORM_TASK, inputsOf(), minutes, kind, a));
     }
 
     public int value(int v) {
-        if (lacksRoom(1)) {
-            return FULL;
-        }
         Stage stage = new Stage(madeCount + 1, FORM_GIVEN, inputsOf(), 0, 0);
         stage.gain(v);
         return open(stage);
@@ -129,9 +123,6 @@ public final class PromiseKitchen {
     public int failed(int k) {
         if (!isWithin(k, 0, LAST_KIND)) {
             return BAD;
-        }
-        if (lacksRoom(1)) {
-            return FULL;
         }
         Stage stage = new Stage(madeCount + 1, FORM_GIVEN, inputsOf(), 0, 0);
         stage.fail(new Failure(k, stage.number));
@@ -143,9 +134,6 @@ public final class PromiseKitchen {
         if (input == null || !isWithin(kind, 0, LAST_FUNCTION)) {
             return BAD;
         }
-        if (lacksRoom(1)) {
-            return FULL;
-        }
         return open(new Stage(madeCount + 1, FORM_THEN, inputsOf(input), kind, a));
     }
 
@@ -154,9 +142,6 @@ public final class PromiseKitchen {
         Stage other = find(t);
         if (one == null || other == null || !isWithin(kind, 0, LAST_FUNCTION)) {
             return BAD;
-        }
-        if (lacksRoom(1)) {
-            return FULL;
         }
         return open(new Stage(madeCount + 1, FORM_BOTH, inputsOf(one, other), kind, 0));
     }
@@ -167,9 +152,6 @@ public final class PromiseKitchen {
         if (one == null || other == null) {
             return BAD;
         }
-        if (lacksRoom(1)) {
-            return FULL;
-        }
         return open(new Stage(madeCount + 1, FORM_FIRST, inputsOf(one, other), 0, 0));
     }
 
@@ -177,18 +159,12 @@ public final class PromiseKitchen {
         if (!isGroup(from, count)) {
             return BAD;
         }
-        if (lacksRoom(1)) {
-            return FULL;
-        }
         return open(new Stage(madeCount + 1, FORM_ALL, groupOf(from, count), 0, 0));
     }
 
     public int any(int from, int count, int n) {
         if (!isGroup(from, count) || !isWithin(n, 1, count)) {
             return BAD;
-        }
-        if (lacksRoom(1)) {
-            return FULL;
         }
         return open(new Stage(madeCount + 1, FORM_ANY, groupOf(from, count), 0, n));
     }
@@ -199,9 +175,6 @@ public final class PromiseKitchen {
         if (input == null || instead == null || !isWithin(k, 0, LAST_KIND)) {
             return BAD;
         }
-        if (lacksRoom(1)) {
-            return FULL;
-        }
         return open(new Stage(madeCount + 1, FORM_ON_FAILURE, inputsOf(input, instead), k, 0));
     }
 
@@ -210,7 +183,7 @@ public final class PromiseKitchen {
         if (input == null || !isWork(minutes, 1, kind)) {
             return BAD;
         }
-        if (lacksRoom(2)) {
+        if (madeCount + 2 > MOST_STAGES) {
             return FULL;
         }
         Work closing = new Work(madeCount + 1, FORM_CLOSING, inputsOf(input), minutes, kind, a);
@@ -223,9 +196,6 @@ public final class PromiseKitchen {
         if (input == null || !isWithin(minutes, 1, MOST_MINUTES_OF_LIMIT)) {
             return BAD;
         }
-        if (lacksRoom(1)) {
-            return FULL;
-        }
         int due = clock + minutes;
         agenda.mark(due);
         return open(new Stage(madeCount + 1, FORM_LIMIT, inputsOf(input), 0, due));
@@ -234,9 +204,6 @@ public final class PromiseKitchen {
     public int retry(int minutes, int kind, int a, int times, int pause) {
         if (!isWork(minutes, 1, kind) || !isWithin(times, 0, MOST_TIMES) || !isWithin(pause, 1, MOST_PAUSE)) {
             return BAD;
-        }
-        if (lacksRoom(1)) {
-            return FULL;
         }
         Work work = new Work(madeCount + 1, FORM_RETRY, inputsOf(), minutes, kind, a);
         work.allowPauses(times, pause);
@@ -247,9 +214,6 @@ public final class PromiseKitchen {
         Stage input = find(s);
         if (input == null || !isWork(minutes, 2, kind)) {
             return BAD;
-        }
-        if (lacksRoom(1)) {
-            return FULL;
         }
         return openWork(new Work(madeCount + 1, FORM_NESTED, inputsOf(input), minutes, kind, a));
     }
@@ -425,10 +389,6 @@ public final class PromiseKitchen {
         return isWithin(count, 1, MOST_IN_GROUP) && find(from) != null && find(from + count - 1) != null;
     }
 
-    private boolean lacksRoom(int needed) {
-        return madeCount + needed > MOST_STAGES;
-    }
-
     /** The stage of this number, null if there is none. */
     private Stage find(int number) {
         return isWithin(number, 1, madeCount) ? made[number - 1] : null;
@@ -459,7 +419,11 @@ public final class PromiseKitchen {
         return inputs;
     }
 
+    /** The stage's number, or FULL. */
     private int open(Stage stage) {
+        if (madeCount >= MOST_STAGES) {
+            return FULL;
+        }
         made[madeCount] = stage;
         madeCount++;
         for (Stage input : stage.inputs) {
@@ -473,11 +437,11 @@ public final class PromiseKitchen {
     }
 
     private int openWork(Work work) {
-        open(work);
-        if (work.form != FORM_CLOSING || work.isSetFree()) {
+        int number = open(work);
+        if (number != FULL && (work.form != FORM_CLOSING || work.isSetFree())) {
             makeReady(work);
         }
-        return work.number;
+        return number;
     }
 
     private void makeReady(Work work) {
@@ -542,7 +506,7 @@ public final class PromiseKitchen {
 
     /**
      * What is called off here serves nothing that has not ended, so its end brings about no other one: it is
-     * only recorded, which puts it behind those whose turn is still to come.
+     * only noted, which puts it behind those whose turn is still to come.
      */
     private void payDues() {
         for (int i = 0; i < MOST_STAGES && i < dues.size(); i++) {

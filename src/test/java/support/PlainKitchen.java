@@ -114,12 +114,7 @@ public final class PlainKitchen {
     }
 
     private Stage at(int number) {
-        for (Stage stage : stages) {
-            if (stage.number == number) {
-                return stage;
-            }
-        }
-        return null;
+        return number < 1 || number > stages.size() ? null : stages.get(number - 1);
     }
 
     private Stage make(String form, Stage... inputs) {
