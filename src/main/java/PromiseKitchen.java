@@ -419,15 +419,10 @@ public final class PromiseKitchen {
         return inputs;
     }
 
-    /** The stage's number, or FULL. */
+    /** The number of a new stage that is no work, or FULL. */
     private int open(Stage stage) {
-        if (madeCount >= MOST_STAGES) {
+        if (!keep(stage)) {
             return FULL;
-        }
-        made[madeCount] = stage;
-        madeCount++;
-        for (Stage input : stage.inputs) {
-            input.servedBy++;
         }
         Rules.settle(stage);
         if (stage.hasEnded()) {
@@ -436,12 +431,28 @@ public final class PromiseKitchen {
         return stage.number;
     }
 
+    /** The number of a new work, or FULL. */
     private int openWork(Work work) {
-        int number = open(work);
-        if (number != FULL && (work.form != FORM_CLOSING || work.isSetFree())) {
+        if (!keep(work)) {
+            return FULL;
+        }
+        if (work.form != FORM_CLOSING || work.isSetFree()) {
             makeReady(work);
         }
-        return number;
+        return work.number;
+    }
+
+    /** Whether there was room for it. */
+    private boolean keep(Stage stage) {
+        if (madeCount >= MOST_STAGES) {
+            return false;
+        }
+        made[madeCount] = stage;
+        madeCount++;
+        for (Stage input : stage.inputs) {
+            input.servedBy++;
+        }
+        return true;
     }
 
     private void makeReady(Work work) {
@@ -1097,21 +1108,22 @@ public final class PromiseKitchen {
 
         private static void settleAny(Stage stage) {
             int needed = stage.amount;
+            int values = countOf(stage, VALUE);
             int failures = countOf(stage, FAILED);
             int lost = failures + countOf(stage, CALLED_OFF);
-            if (countOf(stage, VALUE) >= needed) {
-                stage.endAs(byPlace(stage, VALUE)[needed - 1]);
+            if (values >= needed) {
+                stage.endAs(byPlace(stage, VALUE, values)[needed - 1]);
             } else if (lost > stage.inputs.length - needed) {
                 if (failures == 0) {
                     stage.dismiss();
                 } else {
-                    failAny(stage, failures - 1);
+                    failAny(stage, byPlace(stage, FAILED, failures));
                 }
             }
         }
 
-        private static void failAny(Stage stage, int last) {
-            Stage[] broken = byPlace(stage, FAILED);
+        private static void failAny(Stage stage, Stage[] broken) {
+            int last = broken.length - 1;
             Failure[] others = new Failure[last];
             for (int i = 0; i < last; i++) {
                 others[i] = broken[i].failure;
@@ -1119,11 +1131,12 @@ public final class PromiseKitchen {
             stage.fail(new Failure(KIND_TOO_FEW, stage.number, broken[last].failure, others));
         }
 
-        private static Stage[] byPlace(Stage stage, int state) {
-            Stage[] sorted = new Stage[countOf(stage, state)];
+        /** The INPUTS of this state, of which there are so many, by PLACE. */
+        private static Stage[] byPlace(Stage stage, int state, int count) {
+            Stage[] sorted = new Stage[count];
             int size = 0;
             for (Stage input : stage.inputs) {
-                if (input.state == state) {
+                if (input.state == state && size < count) {
                     int at = size;
                     for (; at > 0 && sorted[at - 1].place > input.place; at--) {
                         sorted[at] = sorted[at - 1];

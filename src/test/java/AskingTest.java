@@ -26,13 +26,6 @@ public final class AskingTest {
         return cells;
     }
 
-    private static void dueLog(PromiseKitchen x, int[]... entries) {
-        for (int i = 0; i < entries.length; i++) {
-            CHECK.dueRow("log(" + i + ", 0 to 2)", row(x.log(i, 0), x.log(i, 1), x.log(i, 2)), entries[i]);
-        }
-        CHECK.due("log(" + entries.length + ", 0)", x.log(entries.length, 0), -1);
-    }
-
     private static void promise16() {
         CHECK.about("promise 16");
         PromiseKitchen x = new PromiseKitchen();
@@ -378,7 +371,7 @@ public final class AskingTest {
         x.callOff(5, 1);
         x.run(9);
         // 5 is taken at 0 and called off at 1, when 4 (which served 5 alone) is called off, too
-        dueLog(x, row(0, 5, 1), row(1, 5, 4), row(1, 4, 4), row(1, 3, 1), row(2, 3, 7), row(2, 2, 1), row(3, 2, 5),
+        CHECK.dueLog(x, row(0, 5, 1), row(1, 5, 4), row(1, 4, 4), row(1, 3, 1), row(2, 3, 7), row(2, 2, 1), row(3, 2, 5),
                 row(3, 1, 1), row(5, 1, 2), row(5, 2, 6), row(6, 2, 2), row(6, 3, 1), row(7, 3, 3));
         CHECK.dueRow("log() of wrong numbers", row(x.log(0, -1), x.log(0, 3), x.log(-1, 0), x.log(13, 0), x.log(MOST, 0),
                 x.log(LEAST, 2)), -1, -1, -1, -1, -1, -1);
@@ -389,6 +382,6 @@ public final class AskingTest {
         x.nested(2, 0, 0, 1);
         x.then(2, 0, 0);
         x.run(4);
-        dueLog(x, row(0, 2, 1), row(0, 1, 1), row(1, 2, 5), row(3, 1, 3), row(3, 2, 6), row(3, 2, 3), row(3, 3, 3));
+        CHECK.dueLog(x, row(0, 2, 1), row(0, 1, 1), row(1, 2, 5), row(3, 1, 3), row(3, 2, 6), row(3, 2, 3), row(3, 3, 3));
     }
 }

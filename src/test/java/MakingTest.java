@@ -106,6 +106,7 @@ public final class MakingTest {
         x.task(2, 0, 0);
         x.nested(2, 0, 0, 1);
         x.run(2);
+        CHECK.due("cooks(1), its only cook has a work", x.cooks(1), -3);
         CHECK.due("cook(1, 0)", x.cook(1, 0), 1);
         x.run(9);
         CHECK.due("cooks(1)", x.cooks(1), 1);
@@ -258,8 +259,8 @@ public final class MakingTest {
         for (int i = 1; i <= 25; i++) {
             x.value(i);
         }
-        CHECK.dueRow("all() of wrong numbers", row(x.all(1, 0), x.all(1, 25), x.all(0, 3), x.all(3, 24), x.all(26, 1),
-                x.all(MOST, 24), x.all(MOST, 1), x.all(1, LEAST)), -1, -1, -1, -1, -1, -1, -1, -1);
+        CHECK.dueRow("all() of wrong numbers", row(x.all(1, 0), x.all(2, 0), x.all(1, 25), x.all(0, 3), x.all(3, 24),
+                x.all(26, 1), x.all(MOST, 24), x.all(MOST, 1), x.all(1, LEAST)), -1, -1, -1, -1, -1, -1, -1, -1, -1);
         CHECK.due("all(2, 24)", x.answer(x.all(2, 24)), 324);
         CHECK.due("all(25, 1)", x.answer(x.all(25, 1)), 25);
         x.value(MOST);
@@ -550,6 +551,16 @@ public final class MakingTest {
         // the other cook's work fails at 6, the waiting one is RESUMED then
         dueFailures(x, 2, row(12, 2, -4, 0), row(9, 1, 0, 1));
         dueEnd(x, 2, 6, 2);
+
+        x = new PromiseKitchen();
+        x.run(1);
+        x.value(-1000);
+        for (int kind = 0; kind <= 3; kind++) {
+            x.nested(2, kind, 10, 1);
+        }
+        x.run(10);
+        // 5 begins at 1, 4 at 3, 3 at 5, 2 at 7
+        CHECK.dueRow("answer(2 to 5)", row(x.answer(2), x.answer(3), x.answer(4), x.answer(5)), -990, -989, -991, -989);
 
         x = new PromiseKitchen();
         x.value(1);

@@ -9,6 +9,7 @@ public final class TreatingTest {
         duesGoByPlace();
         duesWhenAStageIsMade();
         duesSpareWhatServesOthers();
+        duesOnlyOnce();
         calledOffAheadOfWorks();
         worksAheadOfLimits();
         resumedCookGoesOn();
@@ -22,13 +23,6 @@ public final class TreatingTest {
         return cells;
     }
 
-    private static void dueLog(PromiseKitchen x, int[]... entries) {
-        for (int i = 0; i < entries.length; i++) {
-            CHECK.dueRow("log(" + i + ", 0 to 2)", row(x.log(i, 0), x.log(i, 1), x.log(i, 2)), entries[i]);
-        }
-        CHECK.due("log(" + entries.length + ", 0)", x.log(entries.length, 0), -1);
-    }
-
     private static void readyWorksAreTakenInOrder() {
         CHECK.about("READY works: the lowest minute, then the highest number");
         PromiseKitchen x = new PromiseKitchen();
@@ -39,7 +33,7 @@ public final class TreatingTest {
         x.task(2, 0, 0);
         x.task(2, 0, 0);
         x.run(9);
-        dueLog(x, row(0, 3, 1), row(2, 3, 2), row(2, 2, 1), row(4, 2, 2), row(4, 1, 1), row(6, 1, 2), row(6, 5, 1),
+        CHECK.dueLog(x, row(0, 3, 1), row(2, 3, 2), row(2, 2, 1), row(4, 2, 2), row(4, 1, 1), row(6, 1, 2), row(6, 5, 1),
                 row(8, 5, 2), row(8, 4, 1));
     }
 
@@ -53,7 +47,7 @@ public final class TreatingTest {
         x.task(1, 0, 0);
         x.run(20);
         // 2 works 0-1 and is READY again at 2; 5 is READY at 1, 3 at 4 when 1 has ended
-        dueLog(x, row(0, 2, 1), row(1, 2, 7), row(1, 1, 1), row(4, 1, 2), row(4, 5, 1), row(5, 5, 2), row(5, 2, 1),
+        CHECK.dueLog(x, row(0, 2, 1), row(1, 2, 7), row(1, 1, 1), row(4, 1, 2), row(4, 5, 1), row(5, 5, 2), row(5, 2, 1),
                 row(6, 2, 3), row(6, 3, 1), row(7, 3, 2), row(7, 4, 2));
     }
 
@@ -88,7 +82,7 @@ public final class TreatingTest {
         x.callOff(6, 0);
         x.run(1);
         // 6, then 7 and 8 as it; DUES of 6: 4, 3; of 7: 5; of 8: 2 (4, which had it, has ended); of 4: -; of 3: 1
-        dueLog(x, row(0, 6, 4), row(0, 7, 4), row(0, 8, 4), row(0, 4, 4), row(0, 3, 4), row(0, 5, 4), row(0, 2, 4),
+        CHECK.dueLog(x, row(0, 6, 4), row(0, 7, 4), row(0, 8, 4), row(0, 4, 4), row(0, 3, 4), row(0, 5, 4), row(0, 2, 4),
                 row(0, 1, 4));
     }
 
@@ -123,6 +117,22 @@ public final class TreatingTest {
         CHECK.due("state(2)", x.state(2), 7);
     }
 
+    private static void duesOnlyOnce() {
+        CHECK.about("a stage called off has DUES once");
+        PromiseKitchen x = new PromiseKitchen();
+        x.cooks(2);
+        x.task(9, 0, 0);
+        x.task(2, 0, 0);
+        x.then(1, 0, 0);
+        x.first(1, 2);
+        x.task(60, 0, 0);
+        x.callOff(3, 0);
+        x.callOff(5, 4);
+        x.run(5);
+        // 4 has ended with the value of 2, so nothing has 1 as an INPUT when the DUES of 5 come
+        CHECK.dueRow("states: 1 goes on", row(x.state(1), x.state(3), x.state(4), x.state(5)), 2, 7, 5, 7);
+    }
+
     private static void calledOffAheadOfWorks() {
         CHECK.about("callings off by number, ahead of the works");
         PromiseKitchen x = new PromiseKitchen();
@@ -133,7 +143,7 @@ public final class TreatingTest {
         x.callOff(3, 2);
         x.callOff(1, 2);
         x.run(3);
-        dueLog(x, row(0, 3, 1), row(0, 2, 1), row(2, 1, 4), row(2, 3, 4), row(2, 2, 2));
+        CHECK.dueLog(x, row(0, 3, 1), row(0, 2, 1), row(2, 1, 4), row(2, 3, 4), row(2, 2, 2));
         CHECK.dueRow("work(1 and 3, 2)", row(x.work(1, 2), x.work(3, 2)), 0, 1);
     }
 
@@ -149,7 +159,7 @@ public final class TreatingTest {
         x.limit(2, 3);
         x.run(4);
         // cook 1: 3, cook 2: 2 0-1, then 1 from 1 on (over at 4); at 3 all limits fail, and call off 1, 3 and 2
-        dueLog(x, row(0, 3, 1), row(0, 2, 1), row(1, 2, 7), row(1, 1, 1), row(3, 4, 3), row(3, 1, 4), row(3, 5, 3),
+        CHECK.dueLog(x, row(0, 3, 1), row(0, 2, 1), row(1, 2, 7), row(1, 1, 1), row(3, 4, 3), row(3, 1, 4), row(3, 5, 3),
                 row(3, 3, 4), row(3, 6, 3), row(3, 2, 4));
         CHECK.dueRow("state(2), pause(2, 1)", row(x.state(2), x.pause(2, 1)), 7, 3);
     }
@@ -163,7 +173,7 @@ public final class TreatingTest {
         x.nested(2, 0, 0, 3);
         x.run(7);
         // 4 waits at 1, 3 is taken and waits at 2, 2 is taken and fails at 6: 3, 4 fail, 1 is taken, all at 6
-        dueLog(x, row(0, 4, 1), row(1, 4, 5), row(1, 3, 1), row(2, 3, 5), row(2, 2, 1), row(6, 2, 3), row(6, 3, 6),
+        CHECK.dueLog(x, row(0, 4, 1), row(1, 4, 5), row(1, 3, 1), row(2, 3, 5), row(2, 2, 1), row(6, 2, 3), row(6, 3, 6),
                 row(6, 3, 3), row(6, 4, 6), row(6, 4, 3), row(6, 1, 1));
         CHECK.dueRow("failure(4, 2, 0 to 3)", row(x.failure(4, 2, 0), x.failure(4, 2, 1), x.failure(4, 2, 2),
                 x.failure(4, 2, 3)), 8, 2, 1, 1);
@@ -212,7 +222,7 @@ public final class TreatingTest {
         x.callOff(1, 4);
         x.run(5);
         // at 4 cook 1 is free for 2, then cook 2 is RESUMED with 3: it is called off, so is 4, and by its DUES 2
-        dueLog(x, row(0, 5, 1), row(0, 3, 1), row(1, 3, 5), row(1, 1, 1), row(4, 1, 4), row(4, 5, 2), row(4, 2, 1),
+        CHECK.dueLog(x, row(0, 5, 1), row(0, 3, 1), row(1, 3, 5), row(1, 1, 1), row(4, 1, 4), row(4, 5, 2), row(4, 2, 1),
                 row(4, 3, 6), row(4, 3, 4), row(4, 4, 4), row(4, 2, 4));
         CHECK.dueRow("work(2, 2), idle minutes", row(x.work(2, 2), x.cook(1, 1), x.cook(2, 1)), 1, 1, 1);
     }

@@ -1,3 +1,4 @@
+import java.util.Arrays;
 import java.util.function.IntSupplier;
 
 /** Counts and prints the answers that are not as due. */
@@ -17,9 +18,18 @@ final class Check {
 
     /** The calls' answers one behind the other, so that a row of them is told in one line. */
     void dueRow(String calls, int[] got, int... want) {
-        if (!java.util.Arrays.equals(got, want)) {
-            say(calls + " answered " + java.util.Arrays.toString(got) + ", due is " + java.util.Arrays.toString(want));
+        if (!Arrays.equals(got, want)) {
+            say(calls + " answered " + Arrays.toString(got) + ", due is " + Arrays.toString(want));
         }
+    }
+
+    /** THE LOG has these entries, each minute, stage, event, and no more. */
+    void dueLog(PromiseKitchen x, int[]... entries) {
+        for (int i = 0; i < entries.length; i++) {
+            int[] got = {x.log(i, 0), x.log(i, 1), x.log(i, 2)};
+            dueRow("log(" + i + ", 0 to 2)", got, entries[i]);
+        }
+        due("log(" + entries.length + ", 0)", x.log(entries.length, 0), -1);
     }
 
     void dueThrow(String call, Class<? extends RuntimeException> want, IntSupplier asked) {
