@@ -6,7 +6,11 @@ import java.util.List;
 import java.util.Map;
 import java.util.Random;
 
-/** Many runs of chance calls (the same ones each time): the program answers as the plain kitchen does. */
+/**
+ * Many runs of chance calls (the same ones each time): the program answers as the plain kitchen does. One object is
+ * asked far more than the 512 times that are promised of it, as the program counts no calls; the tests by hand keep
+ * to 512.
+ */
 public final class AgainstPlainKitchenTest {
     private static final int RUNS = 1000;
     private static final int SHOWN_AT_MOST = 5;

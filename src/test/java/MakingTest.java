@@ -24,31 +24,6 @@ public final class MakingTest {
         CHECK.finish();
     }
 
-    private static int[] states(PromiseKitchen x, int... stages) {
-        int[] found = new int[stages.length];
-        for (int i = 0; i < stages.length; i++) {
-            found[i] = x.state(stages[i]);
-        }
-        return found;
-    }
-
-    /** kind and stage AT which, of the failure at this place. */
-    private static int[] failure(PromiseKitchen x, int s, int i) {
-        return new int[] {x.failure(s, i, 0), x.failure(s, i, 1), x.failure(s, i, 2), x.failure(s, i, 3)};
-    }
-
-    private static void dueEnd(PromiseKitchen x, int s, int minute, int place) {
-        CHECK.dueRow("end(" + s + ", 0 and 1)", new int[] {x.end(s, 0), x.end(s, 1)}, minute, place);
-    }
-
-    private static void dueFailures(PromiseKitchen x, int s, int[]... rows) {
-        for (int i = 0; i < rows.length; i++) {
-            CHECK.dueRow("failure(" + s + ", " + i + ", 0 to 3)", failure(x, s, i), rows[i]);
-        }
-        CHECK.dueThrow("failure(" + s + ", " + rows.length + ", 0)", IndexOutOfBoundsException.class,
-                () -> x.failure(s, rows.length, 0));
-    }
-
     private static int[] row(int... cells) {
         return cells;
     }
@@ -123,16 +98,16 @@ public final class MakingTest {
                 x.task(2, 4, 0x1F)), 1, 2, 3, 4, 5);
         x.run(11);
         CHECK.dueRow("answer(1 to 4)", row(x.answer(1), x.answer(2), x.answer(3), x.answer(4)), 7, 8, 7 ^ 4, 7 + 2);
-        dueFailures(x, 5, row(15, 5, -4, 0));
-        dueEnd(x, 5, 2, 1);
-        dueEnd(x, 1, 10, 5);
+        CHECK.dueFailures(x, 5, row(15, 5, -4, 0));
+        CHECK.dueEnd(x, 5, 2, 1);
+        CHECK.dueEnd(x, 1, 10, 5);
 
         x = new PromiseKitchen();
         CHECK.dueRow("task(1 and 60 minutes)", row(x.task(60, 1, MOST), x.task(1, 4, -1)), 1, 2);
         x.run(62);
         CHECK.due("answer(1) wraps", x.answer(1), LEAST);
-        dueEnd(x, 1, 61, 2);
-        dueFailures(x, 2, row(15, 2, -4, 0));
+        CHECK.dueEnd(x, 1, 61, 2);
+        CHECK.dueFailures(x, 2, row(15, 2, -4, 0));
     }
 
     private static void promise4() {
@@ -140,11 +115,11 @@ public final class MakingTest {
         PromiseKitchen x = new PromiseKitchen();
         CHECK.due("value(5)", x.value(5), 1);
         CHECK.dueRow("state(1), answer(1)", row(x.state(1), x.answer(1)), 5, 5);
-        dueEnd(x, 1, 0, 1);
+        CHECK.dueEnd(x, 1, 0, 1);
         x.run(3);
         CHECK.due("value(MIN)", x.value(LEAST), 2);
         CHECK.due("answer(2)", x.answer(2), LEAST);
-        dueEnd(x, 2, 3, 2);
+        CHECK.dueEnd(x, 2, 3, 2);
         CHECK.dueRow("log(1, 0 to 2)", row(x.log(1, 0), x.log(1, 1), x.log(1, 2)), 3, 2, 2);
     }
 
@@ -153,10 +128,10 @@ public final class MakingTest {
         PromiseKitchen x = new PromiseKitchen();
         CHECK.dueRow("failed(-1 and 16)", row(x.failed(-1), x.failed(16)), -1, -1);
         CHECK.dueRow("failed(0 and 15)", row(x.failed(0), x.failed(15)), 1, 2);
-        CHECK.dueRow("states", states(x, 1, 2), 6, 6);
-        dueFailures(x, 1, row(0, 1, -4, 0));
-        dueFailures(x, 2, row(15, 2, -4, 0));
-        dueEnd(x, 2, 0, 2);
+        CHECK.dueRow("states", Check.states(x, 1, 2), 6, 6);
+        CHECK.dueFailures(x, 1, row(0, 1, -4, 0));
+        CHECK.dueFailures(x, 2, row(15, 2, -4, 0));
+        CHECK.dueEnd(x, 2, 0, 2);
         CHECK.dueRow("log(1, 0 to 2)", row(x.log(1, 0), x.log(1, 1), x.log(1, 2)), 0, 2, 3);
     }
 
@@ -172,9 +147,9 @@ public final class MakingTest {
         x.then(2, 4, 0);
         x.then(3, 4, 0);
         x.then(1, 4, 0);
-        CHECK.dueRow("states", states(x, 9, 10, 11), 6, 7, 6);
-        dueFailures(x, 9, row(4, 2, -4, 0));
-        dueFailures(x, 11, row(6, 11, -4, 0));
+        CHECK.dueRow("states", Check.states(x, 9, 10, 11), 6, 7, 6);
+        CHECK.dueFailures(x, 9, row(4, 2, -4, 0));
+        CHECK.dueFailures(x, 11, row(6, 11, -4, 0));
 
         x = new PromiseKitchen();
         x.value(-7);
@@ -193,7 +168,7 @@ public final class MakingTest {
         CHECK.due("state(2)", x.state(2), 0);
         x.run(3);
         CHECK.due("answer(2)", x.answer(2), 42);
-        dueEnd(x, 2, 2, 2);
+        CHECK.dueEnd(x, 2, 2, 2);
     }
 
     private static void promise7() {
@@ -208,7 +183,7 @@ public final class MakingTest {
         }
         CHECK.due("both(4, 1, 1)", x.answer(x.both(4, 1, 1)), -14);
         CHECK.due("both(1, 1, 0)", x.answer(x.both(1, 1, 0)), 20);
-        CHECK.dueRow("states", states(x, x.both(3, 2, 0), x.both(1, 3, 0), x.both(3, 3, 0)), 6, 7, 7);
+        CHECK.dueRow("states", Check.states(x, x.both(3, 2, 0), x.both(1, 3, 0), x.both(3, 3, 0)), 6, 7, 7);
 
         x = new PromiseKitchen();
         x.cooks(2);
@@ -216,11 +191,11 @@ public final class MakingTest {
         x.task(3, 4, 8);
         x.both(1, 2, 0);
         x.run(4);
-        dueFailures(x, 3, row(8, 2, -4, 0));
-        dueEnd(x, 3, 3, 2);
+        CHECK.dueFailures(x, 3, row(8, 2, -4, 0));
+        CHECK.dueEnd(x, 3, 3, 2);
         x.run(5);
         x.both(1, 2, 0);
-        dueFailures(x, 4, row(8, 2, -4, 0));
+        CHECK.dueFailures(x, 4, row(8, 2, -4, 0));
 
         x = new PromiseKitchen();
         x.task(2, 0, 1);
@@ -240,14 +215,14 @@ public final class MakingTest {
         CHECK.due("first(1, 2)", x.first(1, 2), 3);
         x.run(4);
         CHECK.due("answer(3)", x.answer(3), 30);
-        dueEnd(x, 3, 3, 2);
+        CHECK.dueEnd(x, 3, 3, 2);
         CHECK.due("state(1): it goes on", x.state(1), 2);
         x.run(6);
         CHECK.due("first(1, 2)", x.answer(x.first(1, 2)), 30);
         CHECK.due("first(1, 1)", x.answer(x.first(1, 1)), 50);
 
         x = withCalledOff();
-        dueFailures(x, x.first(3, 2), row(4, 2, -4, 0));
+        CHECK.dueFailures(x, x.first(3, 2), row(4, 2, -4, 0));
         x.task(9, 0, 0);
         CHECK.due("first(5, 3)", x.state(x.first(5, 3)), 7);
         CHECK.due("state(5): it served that alone", x.state(5), 7);
@@ -275,11 +250,11 @@ public final class MakingTest {
         x.all(1, 3);
         x.all(3, 1);
         x.run(3);
-        CHECK.dueRow("states", states(x, 4, 5), 0, 5);
+        CHECK.dueRow("states", Check.states(x, 4, 5), 0, 5);
         x.run(5);
-        dueFailures(x, 4, row(8, 2, -4, 0));
-        dueFailures(x, x.all(1, 3), row(8, 2, -4, 0));
-        dueEnd(x, 4, 3, 4);
+        CHECK.dueFailures(x, 4, row(8, 2, -4, 0));
+        CHECK.dueFailures(x, x.all(1, 3), row(8, 2, -4, 0));
+        CHECK.dueEnd(x, 4, 3, 4);
     }
 
     private static void promise10() {
@@ -296,7 +271,7 @@ public final class MakingTest {
         x.any(1, 3, 3);
         x.run(6);
         CHECK.dueRow("answer(4 to 6)", row(x.answer(4), x.answer(5), x.answer(6)), 20, 30, 10);
-        dueEnd(x, 4, 3, 2);
+        CHECK.dueEnd(x, 4, 3, 2);
         CHECK.due("any(1, 3, 2) of ended ones", x.answer(x.any(1, 3, 2)), 30);
 
         x = new PromiseKitchen();
@@ -309,8 +284,8 @@ public final class MakingTest {
         x.run(5);
         CHECK.due("state(5): two may fail", x.state(5), 0);
         x.run(6);
-        dueFailures(x, 5, row(2, 5, -4, 0), row(3, 1, 0, 1), row(7, 2, 0, 2), row(8, 3, 0, 2));
-        dueEnd(x, 5, 5, 4);
+        CHECK.dueFailures(x, 5, row(2, 5, -4, 0), row(3, 1, 0, 1), row(7, 2, 0, 2), row(8, 3, 0, 2));
+        CHECK.dueEnd(x, 5, 5, 4);
         CHECK.due("state(4): it goes on", x.state(4), 2);
 
         x = new PromiseKitchen();
@@ -321,12 +296,12 @@ public final class MakingTest {
         x.callOff(1, 0);
         x.callOff(2, 1);
         x.run(1);
-        CHECK.dueRow("states", states(x, 1, 3, 4), 7, 0, 7);
+        CHECK.dueRow("states", Check.states(x, 1, 3, 4), 7, 0, 7);
         x.run(2);
         CHECK.due("state(3)", x.state(3), 7);
         x.failed(9);
         CHECK.due("any(4, 2, 1): one of them FAILED", x.state(x.any(4, 2, 1)), 6);
-        dueFailures(x, 6, row(2, 6, -4, 0), row(9, 5, 0, 1));
+        CHECK.dueFailures(x, 6, row(2, 6, -4, 0), row(9, 5, 0, 1));
     }
 
     private static void promise11() {
@@ -341,17 +316,17 @@ public final class MakingTest {
             int s = x.onFailure(2, k, 1);
             CHECK.due("onFailure(2, " + k + ", 1)", x.state(s), k < 5 && over4[k] ? 5 : 6);
         }
-        dueFailures(x, x.onFailure(2, 2, 1), row(4, 2, -4, 0));
+        CHECK.dueFailures(x, x.onFailure(2, 2, 1), row(4, 2, -4, 0));
         CHECK.due("onFailure(2, 0, 2)", x.state(x.onFailure(2, 0, 2)), 6);
         CHECK.due("onFailure(2, 0, 3)", x.state(x.onFailure(2, 0, 3)), 7);
 
         x = new PromiseKitchen();
         x.failed(15);
         x.task(3, 0, 8);
-        CHECK.dueRow("onFailure() that waits", states(x, x.onFailure(1, 7, 2), x.onFailure(1, 14, 2)), 0, 6);
+        CHECK.dueRow("onFailure() that waits", Check.states(x, x.onFailure(1, 7, 2), x.onFailure(1, 14, 2)), 0, 6);
         x.run(4);
         CHECK.due("answer(3)", x.answer(3), 8);
-        dueEnd(x, 3, 3, 4);
+        CHECK.dueEnd(x, 3, 3, 4);
 
         x = new PromiseKitchen();
         x.value(8);
@@ -370,12 +345,12 @@ public final class MakingTest {
         CHECK.due("always(1, 2, 0, 9)", x.always(1, 2, 0, 9), 3);
         CHECK.dueRow("served(1 to 3)", row(x.served(1), x.served(2), x.served(3)), 2, 1, 0);
         x.run(3);
-        CHECK.dueRow("states", states(x, 1, 2, 3), 2, 0, 0);
+        CHECK.dueRow("states", Check.states(x, 1, 2, 3), 2, 0, 0);
         x.run(4);
-        CHECK.dueRow("states: taken when it became READY", states(x, 1, 2, 3), 5, 2, 0);
+        CHECK.dueRow("states: taken when it became READY", Check.states(x, 1, 2, 3), 5, 2, 0);
         x.run(6);
         CHECK.dueRow("answers", row(x.answer(2), x.answer(3)), 9, 5);
-        dueEnd(x, 3, 5, 3);
+        CHECK.dueEnd(x, 3, 5, 3);
 
         // each end of s with each end of the closing work: s 1 value, 2 failed, 3 called off
         int[][] due = {{1, 0, 5}, {1, 4, 6}, {2, 0, 6}, {2, 4, 6}, {3, 0, 7}, {3, 4, 7}};
@@ -386,11 +361,11 @@ public final class MakingTest {
             x.run(3);
             CHECK.due("always(" + d[0] + ", 1, " + d[1] + ", 9)", x.state(s), d[2]);
             if (d[0] == 1 && d[1] == 4) {
-                dueFailures(x, s, row(9, 4, -4, 0));
+                CHECK.dueFailures(x, s, row(9, 4, -4, 0));
             } else if (d[0] == 2 && d[1] == 0) {
-                dueFailures(x, s, row(4, 2, -4, 0));
+                CHECK.dueFailures(x, s, row(4, 2, -4, 0));
             } else if (d[0] == 2) {
-                dueFailures(x, s, row(4, 5, -4, 0), row(4, 2, 0, 1), row(9, 4, 0, 2));
+                CHECK.dueFailures(x, s, row(4, 5, -4, 0), row(4, 2, 0, 1), row(9, 4, 0, 2));
             }
         }
 
@@ -399,7 +374,7 @@ public final class MakingTest {
             x.always(s, 1, 4, 9);
             x.callOff(4, 1);
             x.run(2);
-            CHECK.dueRow("states, closing work called off", states(x, 4, 5), 7, s == 1 ? 5 : 6);
+            CHECK.dueRow("states, closing work called off", Check.states(x, 4, 5), 7, s == 1 ? 5 : 6);
         }
 
         x = new PromiseKitchen();
@@ -407,7 +382,7 @@ public final class MakingTest {
         x.always(1, 2, 0, 9);
         x.callOff(3, 1);
         x.run(2);
-        CHECK.dueRow("states, the stage called off", states(x, 1, 2, 3), 7, 7, 7);
+        CHECK.dueRow("states, the stage called off", Check.states(x, 1, 2, 3), 7, 7, 7);
         CHECK.dueRow("places", row(x.end(3, 1), x.end(2, 1), x.end(1, 1)), 1, 2, 3);
     }
 
@@ -417,7 +392,7 @@ public final class MakingTest {
         CHECK.dueRow("limit() of wrong numbers", row(x.limit(0, 1), x.limit(4, 1), x.limit(1, 0), x.limit(1, 401),
                 x.limit(1, LEAST)), -1, -1, -1, -1, -1);
         CHECK.due("limit(1, 400)", x.answer(x.limit(1, 400)), 10);
-        dueFailures(x, x.limit(2, 1), row(4, 2, -4, 0));
+        CHECK.dueFailures(x, x.limit(2, 1), row(4, 2, -4, 0));
         CHECK.due("limit(3, 1)", x.state(x.limit(3, 1)), 7);
 
         x = new PromiseKitchen();
@@ -427,11 +402,11 @@ public final class MakingTest {
         x.limit(1, 3);
         x.then(1, 0, 0);
         x.run(10);
-        CHECK.dueRow("states", states(x, 2, 3), 0, 0);
+        CHECK.dueRow("states", Check.states(x, 2, 3), 0, 0);
         x.run(11);
-        CHECK.dueRow("states: another one has the INPUT", states(x, 1, 2, 3), 2, 0, 6);
-        dueFailures(x, 3, row(5, 3, -4, 0));
-        dueEnd(x, 3, 10, 1);
+        CHECK.dueRow("states: another one has the INPUT", Check.states(x, 1, 2, 3), 2, 0, 6);
+        CHECK.dueFailures(x, 3, row(5, 3, -4, 0));
+        CHECK.dueEnd(x, 3, 10, 1);
         x.run(12);
         CHECK.due("answer(2): the work is over at the DUE minute", x.answer(2), 5);
 
@@ -441,9 +416,9 @@ public final class MakingTest {
         x.limit(2, 2);
         x.limit(3, 2);
         x.run(3);
-        CHECK.dueRow("states", states(x, 1, 2, 3, 4), 7, 7, 6, 6);
+        CHECK.dueRow("states", Check.states(x, 1, 2, 3, 4), 7, 7, 6, 6);
         CHECK.dueRow("places", row(x.end(3, 1), x.end(4, 1), x.end(2, 1), x.end(1, 1)), 1, 2, 3, 4);
-        dueFailures(x, 4, row(5, 3, -4, 0));
+        CHECK.dueFailures(x, 4, row(5, 3, -4, 0));
         CHECK.dueRow("work(1, 2), cook(1, 2)", row(x.work(1, 2), x.cook(1, 2)), 1, 0);
 
         x = new PromiseKitchen();
@@ -452,8 +427,8 @@ public final class MakingTest {
         x.run(400);
         CHECK.due("state(2)", x.state(2), 0);
         x.run(401);
-        CHECK.dueRow("states", states(x, 1, 2), 7, 6);
-        dueEnd(x, 2, 400, 1);
+        CHECK.dueRow("states", Check.states(x, 1, 2), 7, 6);
+        CHECK.dueEnd(x, 2, 400, 1);
     }
 
     private static void promise14() {
@@ -468,8 +443,8 @@ public final class MakingTest {
         x.run(60);
         // workings 0-2, 5-7, 13-15; pauses till 5 and 13
         CHECK.dueRow("pauses", row(x.pause(1, 1), x.pause(1, 2), x.pause(1, 3)), 5, 13, -1);
-        dueEnd(x, 1, 15, 1);
-        dueFailures(x, 1, row(10, 1, -4, 0), row(10, 1, 0, 2), row(10, 1, 0, 2));
+        CHECK.dueEnd(x, 1, 15, 1);
+        CHECK.dueFailures(x, 1, row(10, 1, -4, 0), row(10, 1, 0, 2), row(10, 1, 0, 2));
         CHECK.dueRow("log(1, 0 to 2)", row(x.log(1, 0), x.log(1, 1), x.log(1, 2)), 2, 1, 7);
 
         x = new PromiseKitchen();
@@ -479,14 +454,14 @@ public final class MakingTest {
         x.run(200);
         // workings 0-1, 31-32, 92-93
         CHECK.due("answer(1)", x.answer(1), 392);
-        dueEnd(x, 1, 93, 1);
+        CHECK.dueEnd(x, 1, 93, 1);
 
         x = new PromiseKitchen();
         x.retry(1, 0, 0, 5, 1);
         x.plan(1, 1, 3);
         x.plan(1, 2, 2);
         x.run(60);
-        dueFailures(x, 1, row(2, 1, -4, 0), row(3, 1, 0, 2));
+        CHECK.dueFailures(x, 1, row(2, 1, -4, 0), row(3, 1, 0, 2));
         CHECK.dueRow("work(1, 1 and 3)", row(x.work(1, 1), x.work(1, 3)), 2, 1);
 
         for (int kind = 0; kind <= 15; kind++) {
@@ -505,7 +480,7 @@ public final class MakingTest {
         x.run(800);
         x.run(1000);
         CHECK.due("pause(1, 5)", x.pause(1, 5), 5 + 30 * 31);
-        dueEnd(x, 1, 6 + 30 * 31, 1);
+        CHECK.dueEnd(x, 1, 6 + 30 * 31, 1);
     }
 
     private static void promise15() {
@@ -523,24 +498,24 @@ public final class MakingTest {
         x.nested(5, 0, 0, 3);
         x.run(12);
         // 6 is taken at 7 and over with its first part at 9, 5 taken then and over with it at 11
-        dueEnd(x, 6, 9, 5);
-        dueEnd(x, 5, 11, 6);
-        CHECK.dueRow("states", states(x, 5, 6), 6, 7);
+        CHECK.dueEnd(x, 6, 9, 5);
+        CHECK.dueEnd(x, 5, 11, 6);
+        CHECK.dueRow("states", Check.states(x, 5, 6), 6, 7);
         CHECK.due("work(6, 2)", x.work(6, 2), 1);
-        dueFailures(x, 5, row(12, 5, -4, 0), row(4, 2, 0, 1));
+        CHECK.dueFailures(x, 5, row(12, 5, -4, 0), row(4, 2, 0, 1));
 
         x = new PromiseKitchen();
         x.task(2, 0, MOST);
         x.nested(3, 1, 0, 1);
         x.run(2);
         // first part 0-1, waits and helps from 1 to 3, second part 3-5
-        CHECK.dueRow("states", states(x, 1, 2), 2, 3);
+        CHECK.dueRow("states", Check.states(x, 1, 2), 2, 3);
         CHECK.dueRow("cook(1, 0, 2, 3)", row(x.cook(1, 0), x.cook(1, 2), x.cook(1, 3)), 1, 2, 1);
         x.run(4);
         CHECK.dueRow("state(2), cook(1, 2)", row(x.state(2), x.cook(1, 2)), 2, 1);
         x.run(6);
         CHECK.due("answer(2) wraps", x.answer(2), LEAST);
-        dueEnd(x, 2, 5, 2);
+        CHECK.dueEnd(x, 2, 5, 2);
 
         x = new PromiseKitchen();
         x.cooks(2);
@@ -549,8 +524,8 @@ public final class MakingTest {
         x.plan(2, 1, 1);
         x.run(7);
         // the other cook's work fails at 6, the waiting one is RESUMED then
-        dueFailures(x, 2, row(12, 2, -4, 0), row(9, 1, 0, 1));
-        dueEnd(x, 2, 6, 2);
+        CHECK.dueFailures(x, 2, row(12, 2, -4, 0), row(9, 1, 0, 1));
+        CHECK.dueEnd(x, 2, 6, 2);
 
         x = new PromiseKitchen();
         x.run(1);
@@ -568,8 +543,8 @@ public final class MakingTest {
         x.nested(2, 4, 3, 1);
         x.plan(2, 1, 1);
         x.run(5);
-        dueFailures(x, 3, row(3, 3, -4, 0));
-        dueFailures(x, 2, row(1, 2, -4, 0));
+        CHECK.dueFailures(x, 3, row(3, 3, -4, 0));
+        CHECK.dueFailures(x, 2, row(1, 2, -4, 0));
     }
 
     /** FULL of every maker; what is BAD, too, is BAD. */

@@ -32,6 +32,32 @@ final class Check {
         due("log(" + entries.length + ", 0)", x.log(entries.length, 0), -1);
     }
 
+    void dueEnd(PromiseKitchen x, int s, int minute, int place) {
+        int[] got = {x.end(s, 0), x.end(s, 1)};
+        dueRow("end(" + s + ", 0 and 1)", got, minute, place);
+    }
+
+    /** The FAILURES of a stage are these, each what failure() answers for 0 to 3, and no more. */
+    void dueFailures(PromiseKitchen x, int s, int[]... rows) {
+        for (int i = 0; i < rows.length; i++) {
+            dueRow("failure(" + s + ", " + i + ", 0 to 3)", failure(x, s, i), rows[i]);
+        }
+        dueThrow("failure(" + s + ", " + rows.length + ", 0)", IndexOutOfBoundsException.class,
+                () -> x.failure(s, rows.length, 0));
+    }
+
+    static int[] failure(PromiseKitchen x, int s, int i) {
+        return new int[] {x.failure(s, i, 0), x.failure(s, i, 1), x.failure(s, i, 2), x.failure(s, i, 3)};
+    }
+
+    static int[] states(PromiseKitchen x, int... stages) {
+        int[] found = new int[stages.length];
+        for (int i = 0; i < stages.length; i++) {
+            found[i] = x.state(stages[i]);
+        }
+        return found;
+    }
+
     void dueThrow(String call, Class<? extends RuntimeException> want, IntSupplier asked) {
         try {
             say(call + " answered " + asked.getAsInt() + ", due is " + want.getSimpleName());
