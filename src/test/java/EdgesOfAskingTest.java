@@ -121,9 +121,9 @@ public final class EdgesOfAskingTest {
         for (int i = 0; i < 64; i++) {
             CHECK.due("plan " + (i + 1), x.plan(1 + i / 6, 1 + i % 6, 3), i + 1);
         }
-        IN_PLANNED.answered("plan(11, 5, 3), the 65th", k -> k.plan(11, 5, 3), FULL);
+        IN_PLANNED.answered("plan(11, 5, 2), the 65th", k -> k.plan(11, 5, 2), FULL);
         IN_PLANNED.bad("plan(11, 5, 16), the 65th", k -> k.plan(11, 5, 16));
-        IN_PLANNED.bad("plan(12, 1, 3), the 65th", k -> k.plan(12, 1, 3));
+        IN_PLANNED.bad("plan(12, 1, 2), the 65th", k -> k.plan(12, 1, 2));
         x = IN_PLANNED.kitchen();
         CHECK.dueRow("plan(11, 5, 3), clearPlan(), plan(11, 5, 3)", row(x.plan(11, 5, 3), x.clearPlan(), x.plan(11, 5, 3)),
                 -2, 64, 1);
