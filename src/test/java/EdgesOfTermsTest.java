@@ -45,6 +45,7 @@ public final class EdgesOfTermsTest {
         workingsOfRetry();
         noneReady();
         noneToHelpWith();
+        hangsOnEachNumber();
         deepestPile();
         tiesOfReadyMinutes();
         refusalsInOrder();
@@ -761,6 +762,23 @@ public final class EdgesOfTermsTest {
         x.run(9);
         CHECK.dueRow("states: all FAILED at 8, and 1 is taken then", Check.states(x, 1, 2, 3, 4), 2, 6, 6, 6);
         CHECK.due("end(4, 0)", x.end(4, 0), 8);
+    }
+
+    private static void hangsOnEachNumber() {
+        CHECK.about("A stage HANGS ON itself, its INPUTS, theirs, and so on: the one of each number, and no other");
+        for (int s = 1; s <= 198; s++) {
+            PromiseKitchen x = new PromiseKitchen();
+            for (int made = 1; made <= 198; made++) {
+                x.task(1, 0, 0);
+            }
+            x.then(s, 0, 0);
+            x.nested(2, 0, 0, s % 2 == 0 ? s : 199);
+            x.run(2);
+            CHECK.dueRow("cook(1, 0), cook(1, 3) that waits for what hangs on " + s + " alone",
+                    row(x.cook(1, 0), x.cook(1, 3)), 1, s);
+            x.run(3);
+            CHECK.dueRow("cook(1, 2), cook(1, 3), RESUMED", row(x.cook(1, 2), x.cook(1, 3)), 1, 200);
+        }
     }
 
     private static void deepestPile() {
