@@ -19,6 +19,7 @@ public final class AskingTest {
         promise28();
         promise29();
         promise30();
+        exampleOfReadme();
         CHECK.finish();
     }
 
@@ -383,5 +384,17 @@ public final class AskingTest {
         x.then(2, 0, 0);
         x.run(4);
         CHECK.dueLog(x, row(0, 2, 1), row(0, 1, 1), row(1, 2, 5), row(3, 1, 3), row(3, 2, 6), row(3, 2, 3), row(3, 3, 3));
+    }
+
+    private static void exampleOfReadme() {
+        CHECK.about("the example of README.md");
+        PromiseKitchen kitchen = new PromiseKitchen();
+        kitchen.cooks(2);
+        int soup = kitchen.task(5, 0, 10);
+        int bread = kitchen.retry(3, 0, 7, 2, 1);
+        int meal = kitchen.both(soup, bread, 0);
+        int served = kitchen.limit(meal, 30);
+        kitchen.run(20);
+        CHECK.due("answer(served)", kitchen.answer(served), 17);
     }
 }

@@ -76,15 +76,15 @@ public final class FaceTest {
     }
 
     private static void checkExceptions(Class<?> kitchen) {
-        for (Method method : kitchen.getMethods()) {
+        for (Method method : kitchen.getDeclaredMethods()) {
             List<String> thrown = Arrays.stream(method.getExceptionTypes()).map(Class::getSimpleName).toList();
-            if (method.getName().equals("answer")
-                    && !thrown.equals(List.of("IllegalArgumentException", "IllegalStateException"))) {
-                CHECK.say("answer throws " + thrown);
-            }
-            if (method.getName().equals("failure") && !thrown.equals(
-                    List.of("IllegalArgumentException", "IllegalStateException", "IndexOutOfBoundsException"))) {
-                CHECK.say("failure throws " + thrown);
+            List<String> due = switch (method.getName()) {
+                case "answer" -> List.of("IllegalArgumentException", "IllegalStateException");
+                case "failure" -> List.of("IllegalArgumentException", "IllegalStateException", "IndexOutOfBoundsException");
+                default -> List.of();
+            };
+            if (Modifier.isPublic(method.getModifiers()) && !thrown.equals(due)) {
+                CHECK.say(method.getName() + " throws " + thrown + ", due is " + due);
             }
         }
     }

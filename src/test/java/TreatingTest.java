@@ -16,6 +16,17 @@ public final class TreatingTest {
         oneCooksTurnTakesFromAnother();
         helpOnlyWithWhatItHangsOn();
         pileLosesOneFromBelow();
+        heldWorkIsReadyInTheSameMinute();
+        readyFromWhenItWasMade();
+        stepsInOrder();
+        worksOverByNumber();
+        theActGoesOnBehindDues();
+        waitsBelowTheUpmost();
+        helpsInOrder();
+        resumedEachWay();
+        cooksByNumber();
+        turnIsOverThoughNoneWasTaken();
+        cooksFromNowOn();
         CHECK.finish();
     }
 
@@ -262,5 +273,263 @@ public final class TreatingTest {
         CHECK.dueRow("cook(1, 2 and 3), state(5)", row(x.cook(1, 2), x.cook(1, 3), x.state(5)), 1, 1, 7);
         x.run(12);
         CHECK.dueRow("state(1), end(1, 0)", row(x.state(1), x.end(1, 0)), 5, 11);
+    }
+
+    private static void heldWorkIsReadyInTheSameMinute() {
+        CHECK.about("an end brings about others: a HELD work whose INPUT has ended becomes READY");
+        PromiseKitchen x = new PromiseKitchen();
+        x.task(2, 0, 5);
+        x.then(1, 0, 1);
+        x.always(2, 3, 0, 0);
+        x.then(4, 0, 1);
+        x.run(3);
+        CHECK.dueRow("states", Check.states(x, 1, 2, 3, 4, 5), 5, 5, 2, 0, 0);
+        x.run(6);
+        CHECK.dueLog(x, row(0, 1, 1), row(2, 1, 2), row(2, 2, 2), row(2, 3, 1), row(5, 3, 2), row(5, 4, 2), row(5, 5, 2));
+        CHECK.dueRow("answer(4), answer(5)", row(x.answer(4), x.answer(5)), 6, 7);
+    }
+
+    private static void readyFromWhenItWasMade() {
+        CHECK.about("READY from the minute NOW at which it was made (a CLOSING WORK too, whose INPUT had ended then)");
+        PromiseKitchen x = new PromiseKitchen();
+        x.value(1);
+        x.task(4, 0, 0);
+        x.run(1);
+        x.task(1, 0, 0);
+        x.run(2);
+        x.always(1, 1, 0, 0);
+        x.run(6);
+        // 3 is READY from 1 on, 4 from 2 on, though its INPUT ended at 0
+        CHECK.dueLog(x, row(0, 1, 2), row(0, 2, 1), row(4, 2, 2), row(4, 3, 1), row(5, 3, 2), row(5, 4, 1));
+    }
+
+    private static void stepsInOrder() {
+        CHECK.about("step 1 ahead of step 2: a work that is CALLED OFF when its time is over");
+        PromiseKitchen x = new PromiseKitchen();
+        x.task(3, 0, 0);
+        x.then(1, 0, 0);
+        x.callOff(1, 3);
+        x.callOff(2, 3);
+        x.run(4);
+        CHECK.dueLog(x, row(0, 1, 1), row(3, 1, 4), row(3, 2, 4));
+
+        CHECK.about("step 1 ahead of step 3: a limit() that is CALLED OFF at its DUE minute");
+        x = new PromiseKitchen();
+        x.task(60, 0, 0);
+        x.limit(1, 3);
+        x.callOff(2, 3);
+        x.run(4);
+        CHECK.dueLog(x, row(0, 1, 1), row(3, 2, 4), row(3, 1, 4));
+
+        CHECK.about("step 1 ahead of step 5: a READY work that is CALLED OFF is not taken");
+        x = new PromiseKitchen();
+        x.task(2, 0, 0);
+        x.task(2, 0, 0);
+        x.callOff(2, 0);
+        x.run(1);
+        CHECK.dueLog(x, row(0, 2, 4), row(0, 1, 1));
+
+        CHECK.about("step 2 ahead of step 3: s ends at the DUE minute");
+        x = new PromiseKitchen();
+        x.task(3, 4, 9);
+        x.limit(1, 3);
+        x.run(4);
+        CHECK.dueFailures(x, 2, row(9, 1, -4, 0));
+
+        CHECK.about("step 3 ahead of step 5: a READY work whose limit() FAILS is not taken");
+        x = new PromiseKitchen();
+        x.task(3, 0, 0);
+        x.limit(1, 3);
+        x.task(3, 0, 0);
+        x.run(4);
+        CHECK.dueLog(x, row(0, 3, 1), row(3, 3, 2), row(3, 2, 3), row(3, 1, 4));
+
+        CHECK.about("step 4 ahead of step 5: a retry() whose pause is over is taken in that minute");
+        x = new PromiseKitchen();
+        x.retry(1, 4, 1, 1, 2);
+        x.run(4);
+        CHECK.dueLog(x, row(0, 1, 1), row(1, 1, 7), row(3, 1, 1));
+    }
+
+    private static void worksOverByNumber() {
+        CHECK.about("step 2: the WORKS at work whose time is over at M, by number, whoever has them");
+        PromiseKitchen x = new PromiseKitchen();
+        x.cooks(3);
+        x.task(5, 0, 0);
+        x.retry(5, 4, 1, 1, 9);
+        x.value(0);
+        x.nested(5, 0, 0, 3);
+        x.task(60, 0, 0);
+        x.callOff(5, 0);
+        x.run(6);
+        CHECK.dueLog(x, row(0, 3, 2), row(0, 5, 4), row(0, 4, 1), row(0, 2, 1), row(0, 1, 1), row(5, 1, 2), row(5, 2, 7),
+                row(5, 4, 2));
+    }
+
+    private static void theActGoesOnBehindDues() {
+        CHECK.about("DUES. Then the act that ended the first stage goes on: step 1");
+        PromiseKitchen x = new PromiseKitchen();
+        x.task(60, 0, 0);
+        x.then(1, 0, 0);
+        x.task(60, 0, 0);
+        x.callOff(2, 0);
+        x.callOff(3, 0);
+        x.run(1);
+        CHECK.dueLog(x, row(0, 2, 4), row(0, 1, 4), row(0, 3, 4));
+
+        CHECK.about("DUES. Then the act that ended the first stage goes on: step 2");
+        x = new PromiseKitchen();
+        x.cooks(4);
+        x.task(9, 0, 0);
+        x.task(9, 0, 0);
+        x.nested(6, 0, 0, 1);
+        x.both(3, 2, 0);
+        x.task(3, 0, 0);
+        x.callOff(1, 3);
+        x.run(4);
+        CHECK.dueLog(x, row(0, 5, 1), row(0, 3, 1), row(0, 2, 1), row(0, 1, 1), row(3, 1, 4), row(3, 3, 4), row(3, 4, 4),
+                row(3, 2, 4), row(3, 5, 2));
+
+        CHECK.about("DUES. Then the act that ended the first stage goes on: step 3");
+        x = new PromiseKitchen();
+        x.task(60, 0, 0);
+        x.limit(1, 1);
+        x.task(60, 0, 0);
+        x.limit(3, 1);
+        x.run(2);
+        CHECK.dueLog(x, row(0, 3, 1), row(1, 2, 3), row(1, 1, 4), row(1, 4, 3), row(1, 3, 4));
+
+        CHECK.about("DUES. Then the act that ended the first stage goes on: step 5");
+        x = new PromiseKitchen();
+        x.task(60, 0, 0);
+        x.task(9, 0, 0);
+        x.nested(2, 0, 0, 1);
+        x.both(2, 3, 0);
+        x.run(2);
+        x.task(9, 0, 0);
+        x.callOff(1, 3);
+        x.run(4);
+        // 2 is CALLED OFF by the DUES of 4, so that the cook, which goes on, takes 5
+        CHECK.dueLog(x, row(0, 3, 1), row(1, 3, 5), row(1, 1, 1), row(3, 1, 4), row(3, 3, 6), row(3, 3, 4), row(3, 4, 4),
+                row(3, 2, 4), row(3, 5, 1));
+    }
+
+    private static void waitsBelowTheUpmost() {
+        CHECK.about("A cook works at the upmost one, or waits with it: one below is RESUMED when it is the upmost again");
+        PromiseKitchen x = new PromiseKitchen();
+        x.cooks(2);
+        x.task(10, 0, 1);
+        x.task(4, 0, 2);
+        x.first(1, 2);
+        x.nested(2, 0, 100, 3);
+        x.run(5);
+        // cook 1 has 4 and helps with 1 from 1 to 11, cook 2 has 2 from 0 to 4
+        CHECK.dueRow("states", Check.states(x, 1, 2, 3, 4), 2, 5, 5, 3);
+        CHECK.dueRow("cook(1, 1 to 3)", row(x.cook(1, 1), x.cook(1, 2), x.cook(1, 3)), 0, 2, 1);
+        x.run(13);
+        CHECK.dueLog(x, row(0, 4, 1), row(0, 2, 1), row(1, 4, 5), row(1, 1, 1), row(4, 2, 2), row(4, 3, 2), row(11, 1, 2),
+                row(11, 4, 6), row(12, 4, 2));
+        CHECK.due("answer(4)", x.answer(4), 102);
+    }
+
+    private static void helpsInOrder() {
+        CHECK.about("it HELPS with the one of the lowest READY minute, of those the highest number");
+        PromiseKitchen x = new PromiseKitchen();
+        x.task(1, 0, 0);
+        x.task(3, 0, 0);
+        x.retry(1, 4, 1, 5, 1);
+        x.all(1, 3);
+        x.nested(2, 0, 0, 4);
+        x.run(8);
+        // at 5 the READY minute of 1 is 0, that of 3 (behind its pause) is 3
+        CHECK.dueLog(x, row(0, 5, 1), row(1, 5, 5), row(1, 3, 1), row(2, 3, 7), row(2, 2, 1), row(5, 2, 2), row(5, 1, 1),
+                row(6, 1, 2), row(6, 3, 1), row(7, 3, 7));
+        CHECK.due("cook(1, 0)", x.cook(1, 0), 4);
+    }
+
+    private static void resumedEachWay() {
+        CHECK.about("RESUMED: if that has a value, the second part begins at M; if it FAILED, it FAILS; if CALLED OFF, so is it");
+        // how 1 ends at 6: by its function, or called off; the state of 2 behind that, and the log's last entries
+        int[][] ways = {{0, 10000, 2}, {4, 10000, 6}, {0, 6, 7}};
+        for (int[] way : ways) {
+            PromiseKitchen x = new PromiseKitchen();
+            x.cooks(2);
+            x.task(6, way[0], 9);
+            x.nested(4, 0, 50, 1);
+            x.callOff(1, way[1]);
+            x.run(6);
+            CHECK.dueRow("states", Check.states(x, 1, 2), 2, 3);
+            x.run(7);
+            CHECK.dueRow("state(2), cook(1, 2), work(2, 2)", row(x.state(2), x.cook(1, 2), x.work(2, 2)), way[2],
+                    way[2] == 2 ? 1 : 0, way[2] == 7 ? 1 : 0);
+            CHECK.dueRow("log(4, 0 to 2)", row(x.log(4, 0), x.log(4, 1), x.log(4, 2)), 6, 2, 6);
+            if (way[2] == 6) {
+                CHECK.dueFailures(x, 2, row(12, 2, -4, 0), row(9, 1, 0, 1));
+            } else if (way[2] == 2) {
+                x.run(9);
+                CHECK.dueRow("answer(2), end(2, 0)", row(x.answer(2), x.end(2, 0)), 59, 8);
+            }
+        }
+    }
+
+    private static void cooksByNumber() {
+        CHECK.about("step 5: the cooks, by number");
+        PromiseKitchen x = new PromiseKitchen();
+        x.cooks(4);
+        x.task(9, 0, 0);
+        x.task(9, 0, 0);
+        x.task(9, 0, 0);
+        x.run(1);
+        CHECK.dueRow("cook(1 to 4, 3)", row(x.cook(1, 3), x.cook(2, 3), x.cook(3, 3), x.cook(4, 3)), 3, 2, 1, 0);
+        CHECK.dueRow("work(1 to 3, 0)", row(x.work(1, 0), x.work(2, 0), x.work(3, 0)), 3, 2, 1);
+
+        CHECK.about("step 5: what a later cook's turn ends, an earlier one meets a minute later");
+        x = new PromiseKitchen();
+        x.cooks(3);
+        x.task(4, 4, 9);
+        x.nested(2, 0, 0, 1);
+        x.nested(2, 0, 0, 2);
+        x.run(6);
+        // cook 1 has 3, cook 2 has 2, cook 3 has 1; at 4 cook 1 still WAITS when its turn comes, at 5 it is RESUMED
+        CHECK.dueLog(x, row(0, 3, 1), row(0, 2, 1), row(0, 1, 1), row(1, 2, 5), row(1, 3, 5), row(4, 1, 3), row(4, 2, 6),
+                row(4, 2, 3), row(5, 3, 6), row(5, 3, 3));
+        CHECK.dueFailures(x, 3, row(12, 3, -4, 0), row(12, 2, 0, 1), row(9, 1, 1, 1));
+    }
+
+    private static void turnIsOverThoughNoneWasTaken() {
+        CHECK.about("step 5: its turn is over, whether it took one or not: what is READY behind that, it takes a minute later");
+        PromiseKitchen x = new PromiseKitchen();
+        x.cooks(3);
+        x.task(3, 4, 9);
+        x.nested(2, 0, 0, 1);
+        x.always(2, 9, 0, 0);
+        x.always(2, 9, 0, 0);
+        x.always(2, 9, 0, 0);
+        x.task(1, 0, 0);
+        x.run(5);
+        // cook 1 has nothing from 1 on; at 3, behind its turn, cook 2 is RESUMED with 2: 3, 5 and 7 become READY
+        CHECK.dueLog(x, row(0, 9, 1), row(0, 2, 1), row(0, 1, 1), row(1, 2, 5), row(1, 9, 2), row(3, 1, 3), row(3, 2, 6),
+                row(3, 2, 3), row(3, 7, 1), row(3, 5, 1), row(4, 3, 1));
+        CHECK.dueRow("work(3, 5, 7; 0), cook(1, 1)", row(x.work(3, 0), x.work(5, 0), x.work(7, 0), x.cook(1, 1)), 1, 3, 2, 3);
+    }
+
+    private static void cooksFromNowOn() {
+        CHECK.about("promise 2: n cooks from now on, fewer or more than before");
+        PromiseKitchen x = new PromiseKitchen();
+        x.cooks(3);
+        x.cooks(1);
+        for (int s = 1; s <= 4; s++) {
+            x.task(1, 0, 0);
+        }
+        x.run(1);
+        CHECK.dueRow("states with one cook", Check.states(x, 1, 2, 3, 4), 1, 1, 1, 2);
+        x.run(3);
+        CHECK.dueRow("states", Check.states(x, 1, 2, 3, 4), 1, 2, 5, 5);
+        x.run(5);
+        x.cooks(2);
+        x.task(1, 0, 0);
+        x.task(1, 0, 0);
+        x.run(6);
+        CHECK.dueRow("states with two", Check.states(x, 5, 6), 2, 2);
     }
 }
